@@ -131,6 +131,17 @@ public final class PromisesTest {
         Check.same("2: not disabled", x.info(1, 8), 0);
         Check.same("2: tab number 0", x.info(1, 9), 0);
         Check.same("2: closed", x.info(1, 12), 0);
+        x.create(0, 0, TEXT);
+        Check.text(x, 2, "old");
+        x.set(2, 0, 1);
+        x.set(2, 3, 3);
+        x.set(2, 4, 1);
+        x.remove(2);
+        x.create(0, 0, FIELD);
+        Check.same("2: no text", x.info(2, 4), 0);
+        Check.same("2: not hidden", x.info(2, 7), 0);
+        Check.same("2: live not given", x.info(2, 10), 0);
+        Check.same("2: not atomic", x.info(2, 11), 0);
     }
 
     private static void remove() {
@@ -175,6 +186,25 @@ public final class PromisesTest {
         x.create(0, 0, BUTTON);
         Check.same("3: the focus is not that of the new node", x.focus(), -1);
         regionRemoved();
+        removeKeepsOthers();
+    }
+
+    private static void removeKeepsOthers() {
+        SpokenTree x = dialogs();
+        x.setLabelledBy(3, 4);
+        Check.add(x, 0, TABLE);
+        Check.add(x, 7, ROW);
+        Check.add(x, 8, CELL);
+        Check.add(x, 8, CELL);
+        x.read(9);
+        x.focusOn(1);
+        x.open(2);
+        x.remove(5);
+        Check.same("3: labelled by another", x.info(3, 6), 4);
+        Check.same("3: another focus", x.focus(), 3);
+        Check.same("3: another announcement", Check.queue(x), "0 3 -1 button");
+        Check.same("3: another cell read last", x.readBeside(1), 10);
+        Check.same("3: another remembered by a dialog", x.close(2), 1);
     }
 
     private static void regionRemoved() {
@@ -447,6 +477,12 @@ public final class PromisesTest {
         Check.text(x, 9, "deep");
         Check.same("12: children of a text are not in it", Check.words(x, first, 4), "one");
         Check.same("12: nor those of an image", Check.words(x, image, 4), "");
+        Check.add(x, 0, TEXT);
+        Check.add(x, 0, GROUP);
+        Check.add(x, 0, FIELD);
+        Check.same("12: empty ones leave no space", Check.words(x, 0, 4), "pic in three");
+        Check.text(x, 12, "end");
+        Check.same("12: nor between two", Check.words(x, 0, 4), "pic in three end");
     }
 
     private static void namesAndPhrases() {
@@ -497,6 +533,9 @@ public final class PromisesTest {
             Check.same("12: index far", x.character(1, what, Integer.MAX_VALUE), -1);
             Check.same("12: index far ahead", x.character(1, what, Integer.MIN_VALUE), -1);
         }
+        Check.same("13: without asking for a character", x.length(1, 3), 11);
+        Check.same("13: of another node", x.length(0, 4), 3);
+        Check.same("13: of an empty one", x.length(0, 0), 0);
         Check.refused("12: what 6", x, ARGUMENT, () -> x.character(1, 6, 0));
         Check.refused("12: what -1", x, ARGUMENT, () -> x.character(1, -1, 0));
         Check.refused("12: no node", x, OUTSIDE, () -> x.character(2, 6, 0));
@@ -661,6 +700,8 @@ public final class PromisesTest {
         Check.same("19: around", x.step(false), 1);
         Check.same("19: around backwards", x.step(true), 3);
         Check.same("19: back", x.step(true), 2);
+        Check.same("19: back to the first", x.step(true), 1);
+        Check.same("19: and on", x.step(false), 2);
         Check.same("19: announced", Check.queue(x), "0 2 -1 button");
         x.set(2, 1, 1);
         Check.same("19: no focus, backwards", x.step(true), 3);
@@ -1230,6 +1271,7 @@ public final class PromisesTest {
         Check.same("37: spoken", Check.spoken(y), "D B E");
         Check.same("37: read last", y.readBeside(3), 13);
         y.move(2, 1, 3);
+        y.setLabel(0);
         String before = Check.shown(y);
         y.remove(1);
         y.undo();
@@ -1247,6 +1289,7 @@ public final class PromisesTest {
         undoable("set to the same", x -> x.set(1, 1, 0));
         undoable("setText", x -> x.setText(4));
         undoable("setLabel", x -> x.setLabel(5));
+        undoable("setLabel of the root", x -> x.setLabel(0));
         undoable("setLabelledBy", x -> x.setLabelledBy(1, 4));
         undoable("focusOn", x -> x.focusOn(2));
         undoable("step", x -> x.step(true));
