@@ -558,8 +558,8 @@ public final class SpokenTree {
 
         // Empty words leave no space behind, so a join of joins may be written in one run.
         void join(Words other) {
-            if (other.size > 0) {
-                separate();
+            if (size > 0 && other.size > 0) {
+                put(' ');
             }
             for (int index = 0; index < other.size; index++) {
                 put(other.at(index));
@@ -567,24 +567,18 @@ public final class SpokenTree {
         }
 
         void join(String word) {
-            if (word.length() > 0) {
-                separate();
+            if (size > 0 && word.length() > 0) {
+                put(' ');
             }
             for (int index = 0; index < word.length(); index++) {
                 put(word.charAt(index));
-            }
-        }
-
-        private void separate() {
-            if (size > 0) {
-                put(' ');
             }
         }
     }
 
     /** The nodes: where they stand, their settings and dialogs, and the words they make. */
     private static final class Tree {
-        // NONE marks a number that is free.
+        // NONE marks a number that is free; all else of it is then as begin() leaves it.
         private final int[] roles = new int[MAX_NODES];
         private final int[] parents = new int[MAX_NODES];
         private final int[] kidCounts = new int[MAX_NODES];
@@ -603,8 +597,7 @@ public final class SpokenTree {
             for (int node = 0; node < MAX_NODES; node++) {
                 texts[node] = new Words(MAX_TEXT);
                 labels[node] = new Words(MAX_TEXT);
-                roles[node] = NONE;
-                parents[node] = NONE;
+                begin(node, NONE);
             }
             begin(ROOT, GROUP);
         }
@@ -653,19 +646,22 @@ public final class SpokenTree {
         }
 
         int roleOf(int node) {
-            return has(node) ? roles[node] : NONE;
+            return node >= 0 && node < MAX_NODES ? roles[node] : NONE;
         }
 
         int parentOf(int node) {
-            return has(node) ? parents[node] : NONE;
+            return node >= 0 && node < MAX_NODES ? parents[node] : NONE;
         }
 
         int kidCount(int node) {
-            return has(node) ? kidCounts[node] : 0;
+            return node >= 0 && node < MAX_NODES ? kidCounts[node] : 0;
         }
 
         int kidAt(int node, int place) {
-            return place >= 0 && place < kidCount(node) ? kids[node * MAX_NODES + place] : NONE;
+            if (node < 0 || node >= MAX_NODES || place < 0 || place >= kidCounts[node]) {
+                return NONE;
+            }
+            return kids[node * MAX_NODES + place];
         }
 
         int placeOf(int node) {
@@ -749,7 +745,7 @@ public final class SpokenTree {
                     if (!isIn(gone, parentOf(node))) {
                         detach(node);
                     }
-                    roles[node] = NONE;
+                    begin(node, NONE);
                 }
                 if (isIn(gone, labellers[node])) {
                     labellers[node] = NONE;
@@ -761,7 +757,10 @@ public final class SpokenTree {
         }
 
         int setting(int node, int what) {
-            return has(node) && what >= 0 && what < SETTINGS ? settings[node * SETTINGS + what] : 0;
+            if (node < 0 || node >= MAX_NODES || what < 0 || what >= SETTINGS) {
+                return 0;
+            }
+            return settings[node * SETTINGS + what];
         }
 
         void give(int node, int what, int value) {
@@ -771,15 +770,15 @@ public final class SpokenTree {
         }
 
         Words textOf(int node) {
-            return has(node) ? texts[node] : none;
+            return node >= 0 && node < MAX_NODES ? texts[node] : none;
         }
 
         Words labelOf(int node) {
-            return has(node) ? labels[node] : none;
+            return node >= 0 && node < MAX_NODES ? labels[node] : none;
         }
 
         int labellerOf(int node) {
-            return has(node) ? labellers[node] : NONE;
+            return node >= 0 && node < MAX_NODES ? labellers[node] : NONE;
         }
 
         void labelBy(int node, int by) {
@@ -789,7 +788,7 @@ public final class SpokenTree {
         }
 
         boolean isOpen(int node) {
-            return has(node) && openings[node] != 0;
+            return node >= 0 && node < MAX_NODES && openings[node] != 0;
         }
 
         void openDialog(int node, int focusBefore) {
@@ -807,7 +806,7 @@ public final class SpokenTree {
         }
 
         int returnOf(int dialog) {
-            return has(dialog) ? returns[dialog] : NONE;
+            return dialog >= 0 && dialog < MAX_NODES ? returns[dialog] : NONE;
         }
 
         boolean isOut(int node) {
@@ -872,11 +871,11 @@ public final class SpokenTree {
 
         void joinName(int node, Words out) {
             if (labellerOf(node) != NONE) {
-                joinContent(labellerOf(node), out);
+                addContent(labellerOf(node), out, 0);
             } else if (labelOf(node).size > 0) {
                 out.join(labelOf(node));
             } else if (isNamedByContent(roleOf(node))) {
-                joinContent(node, out);
+                addContent(node, out, 0);
             }
         }
 
@@ -1236,7 +1235,8 @@ public final class SpokenTree {
 
         boolean isCell(int node) {
             int row = tree.parentOf(node);
-            return belongs(node, false) && belongs(row, true) && tree.roleOf(tree.parentOf(row)) == TABLE;
+            return belongs(tree.roleOf(node), false) && tree.roleOf(row) == ROW
+                    && tree.roleOf(tree.parentOf(row)) == TABLE;
         }
 
         int columnOf(int cell) {
@@ -1296,17 +1296,15 @@ public final class SpokenTree {
             return NONE;
         }
 
-        private boolean belongs(int node, boolean asRow) {
-            int role = tree.roleOf(node);
+        private static boolean belongs(int role, boolean asRow) {
             return asRow ? role == ROW : (role == CELL || role == HEADER);
         }
 
         private int numberOf(int kid, boolean asRow) {
             int parent = tree.parentOf(kid);
-            int before = tree.placeOf(kid);
             int number = 0;
-            for (int place = 0; place < before; place++) {
-                if (belongs(tree.kidAt(parent, place), asRow)) {
+            for (int place = 0; place < tree.kidCount(parent) && tree.kidAt(parent, place) != kid; place++) {
+                if (belongs(tree.roleOf(tree.kidAt(parent, place)), asRow)) {
                     number++;
                 }
             }
@@ -1317,7 +1315,7 @@ public final class SpokenTree {
             int seen = 0;
             for (int place = 0; place < tree.kidCount(parent); place++) {
                 int kid = tree.kidAt(parent, place);
-                if (belongs(kid, asRow)) {
+                if (belongs(tree.roleOf(kid), asRow)) {
                     if (seen == number) {
                         return kid;
                     }
