@@ -2,15 +2,25 @@
 final class Check {
     private static int wrong = 0;
     private static int done = 0;
+    private static String about = "";
 
     private Check() {
+    }
+
+    /** What is to stand before all that is told as wrong from here on. */
+    static void about(String test) {
+        about = test;
+    }
+
+    static int wrong() {
+        return wrong;
     }
 
     static void same(String what, long got, long due) {
         done++;
         if (got != due) {
             wrong++;
-            System.out.println("WRONG " + what + ": answered " + got + ", due is " + due);
+            System.out.println("WRONG " + about + what + ": answered " + got + ", due is " + due);
         }
     }
 
@@ -18,7 +28,7 @@ final class Check {
         done++;
         if (!got.equals(due)) {
             wrong++;
-            System.out.println("WRONG " + what + ": answered \"" + got + "\", due is \"" + due + "\"");
+            System.out.println("WRONG " + about + what + ": answered \"" + got + "\", due is \"" + due + "\"");
         }
     }
 
