@@ -31,10 +31,6 @@ abstract class Boundaries {
         long on(SpokenTree x);
     }
 
-    interface NodeCall {
-        long on(SpokenTree x, int node);
-    }
-
     interface NumberCall {
         long on(SpokenTree x, int number);
     }
@@ -119,17 +115,21 @@ abstract class Boundaries {
 
     /** The call must throw just this exception, and leave all as it is without the call. */
     static void refused(Class<? extends RuntimeException> due, Supplier<SpokenTree> maker, Call call) {
-        same("throws", told(maker.get(), call), due.getSimpleName());
-        same("changes nothing", Story.of(() -> after(maker.get(), call)), Story.of(maker));
+        refused("the call", due, maker, call);
     }
 
-    /** The call must throw for each of the numbers. */
+    /** The call must be refused with each of the numbers. */
     static void refused(Class<? extends RuntimeException> due, Supplier<SpokenTree> maker, NumberCall call,
             int... numbers) {
         for (int number : numbers) {
-            same("throws with " + number, told(maker.get(), x -> call.on(x, number)), due.getSimpleName());
-            refused(due, maker, x -> call.on(x, number));
+            refused("the call with " + number, due, maker, x -> call.on(x, number));
         }
+    }
+
+    private static void refused(String name, Class<? extends RuntimeException> due, Supplier<SpokenTree> maker,
+            Call call) {
+        same(name + " throws", told(maker.get(), call), due.getSimpleName());
+        same(name + " changes nothing", Story.of(() -> after(maker.get(), call)), Story.of(maker));
     }
 
     /** A tree that has something of everything, and two records. */
@@ -151,14 +151,14 @@ abstract class Boundaries {
     }
 
     /** Numbers that are no node's are refused; the lowest and the highest node are not. */
-    static void noSuchNode(NodeCall call) {
+    static void noSuchNode(NumberCall call) {
         Supplier<SpokenTree> gaps = () -> {
             SpokenTree x = busy();
             x.create(0, 0, GROUP);
             x.remove(4);
             return x;
         };
-        refused(OUTSIDE, gaps, call::on, -1, -2, 4, 12, 23, 24, 25, LOWEST, HIGHEST);
+        refused(OUTSIDE, gaps, call, -1, -2, 4, 12, 23, 24, 25, LOWEST, HIGHEST);
         for (int node : new int[] {0, 1, 22, 23}) {
             String thrown = told(full(GROUP), x -> call.on(x, node));
             no("node " + node + " of 24 is outside", thrown.equals("IndexOutOfBoundsException"));
