@@ -427,8 +427,10 @@ public final class SpokenTree {
             records[MAX_RECORDS - 1] = oldest;
             recordCount = MAX_RECORDS - 1;
         }
-        records[recordCount].copyFrom(now);
-        recordCount++;
+        if (recordCount >= 0 && recordCount < records.length) {
+            records[recordCount].copyFrom(now);
+            recordCount++;
+        }
     }
 
     private void replaceWords(int node, Words words, boolean announces) {
@@ -603,6 +605,9 @@ public final class SpokenTree {
         }
 
         void begin(int node, int role) {
+            if (node < 0 || node >= MAX_NODES) {
+                return;
+            }
             roles[node] = role;
             parents[node] = NONE;
             kidCounts[node] = 0;
@@ -727,7 +732,7 @@ public final class SpokenTree {
         }
 
         private int writeFrom(int node, int[] places, int start, int depth) {
-            if (depth > MAX_NODES || start >= places.length) {
+            if (depth > MAX_NODES || start < 0 || start >= places.length) {
                 return start;
             }
             places[start] = node;
@@ -996,6 +1001,9 @@ public final class SpokenTree {
         void append(int rank, int target, int region, Words said) {
             if (count >= MAX_QUEUE) {
                 drop(firstOfHighestRank());
+            }
+            if (count < 0 || count >= MAX_QUEUE) {
+                return;
             }
             ranks[count] = rank;
             targets[count] = target;
